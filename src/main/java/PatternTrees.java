@@ -969,6 +969,7 @@ public final class PatternTrees {
             exampleSought = true;
             unsettle();
             if (escapes(rules.types, rules.plainRows, 0)) {
+                settleExample(rules.types, rules.plainRows);
                 writeExample(rules);
             }
         }
@@ -1004,30 +1005,57 @@ public final class PatternTrees {
         }
 
         /**
-         * Whether the spots that are open can be settled so that none of the ROWS matches; they stay
-         * settled then. Each call settles one more of them, so there are never more than 60 in another.
+         * Whether the spots that are open can be settled so that none of the ROWS matches; they are open
+         * again then. Each call in another settles one more of them, so there are never more than 60.
          */
         private boolean escapes(Types types, int rows, int depth) {
             if (rows == 0) {
                 return true;
             }
-            int ask = depth < MAX_TERMS ? openAsk(Integer.numberOfTrailingZeros(rows)) : NONE;
+            int ask = depth < MAX_TERMS ? openAsk(rows) : NONE;
             if (ask == NONE) {
                 return false;
             }
             int spot = asks.spot[ask];
-            int answer = firstAnswer(types, rows, ask);
-            for (int n = 0; n <= MAX_TERMS && answer != NONE; n++) {
-                if (escapes(types, settle(rows, spot, answer), depth + 1)) {
-                    return true;
-                }
-                answer = nextAnswer(types, rows, spot, answer);
+            // What no ROW wants leaves none but those that any other answer leaves too: it will do alone.
+            int unwanted = unwantedAnswer(types, rows, ask);
+            int answer = unwanted == NONE ? firstAnswer(types, rows, ask) : unwanted;
+            boolean found = false;
+            for (int n = 0; n < MAX_CONS && answer != NONE && !found; n++) {
+                found = escapes(types, settle(rows, spot, answer), depth + 1);
+                answer = unwanted == NONE ? nextAnswer(types, rows, spot, answer) : NONE;
             }
             settled[spot] = NONE;
-            return false;
+            return found;
         }
 
-        private int openAsk(int row) {
+        /** The way to THE EXAMPLE, once there is one: at each spot by the first answer that leads to any. */
+        private void settleExample(Types types, int rows) {
+            int left = rows;
+            int ask = openAsk(left);
+            for (int depth = 1; depth <= MAX_TERMS && ask != NONE; depth++) {
+                left = settleFirst(types, left, ask, depth);
+                ask = openAsk(left);
+            }
+        }
+
+        private int settleFirst(Types types, int rows, int ask, int depth) {
+            int spot = asks.spot[ask];
+            int answer = firstAnswer(types, rows, ask);
+            int left = settle(rows, spot, answer);
+            for (int n = 0; n <= MAX_ROWS && answer != NONE && !escapes(types, left, depth); n++) {
+                answer = nextAnswer(types, rows, spot, answer);
+                left = settle(rows, spot, answer);
+            }
+            return left;
+        }
+
+        /** What the first of the ROWS asks for first; NONE. */
+        private int openAsk(int rows) {
+            int row = Integer.numberOfTrailingZeros(rows);
+            if (row >= MAX_ROWS) {
+                return NONE;
+            }
             for (int ask = asks.begin[row]; ask < asks.begin[row + 1]; ask++) {
                 if (settled[asks.spot[ask]] == NONE) {
                     return ask;
@@ -1054,7 +1082,7 @@ public final class PatternTrees {
                 return NONE;
             }
             int above = leastWanted(rows, spot, answer + 1);
-            return above == NONE ? leastUnwanted(rows, spot) : above;
+            return above == NONE ? leastUnwanted(rows, spot, ALL_CONS) : above;
         }
 
         /** The least answer from a bound on that some of the ROWS wants at a spot; NONE. */
@@ -1069,10 +1097,21 @@ public final class PatternTrees {
             return least;
         }
 
-        /** Each of the ROWS wants one NUMBER at the most, so one of the first 13 is free. */
-        private int leastUnwanted(int rows, int spot) {
-            int answer = ALL_CONS;
-            for (int n = 0; n <= MAX_ROWS && leastWanted(rows, spot, answer) == answer; n++) {
+        /** The first CON, or the least NUMBER, that none of the ROWS wants; NONE: each CON is wanted. */
+        private int unwantedAnswer(Types types, int rows, int ask) {
+            int spot = asks.spot[ask];
+            if (asks.answer[ask] >= ALL_CONS) {
+                return leastUnwanted(rows, spot, ALL_CONS);
+            }
+            int type = types.conType[asks.answer[ask]];
+            int con = leastUnwanted(rows, spot, types.firstCon[type]);
+            return con < types.firstCon[type] + types.consOf[type] ? con : NONE;
+        }
+
+        /** Each of the ROWS wants one answer at the most, so one of the first 13 is free. */
+        private int leastUnwanted(int rows, int spot, int bound) {
+            int answer = bound;
+            for (int n = 0; n < MAX_ROWS && leastWanted(rows, spot, answer) == answer; n++) {
                 answer++;
             }
             return answer;
@@ -1093,10 +1132,10 @@ public final class PatternTrees {
             int answer = spot == NONE ? NONE : settled[spot];
             if (answer == NONE || depth > MAX_DEPTH) {
                 line.put('_');
-            } else if (answer >= ALL_CONS && type == NUMBERS) {
-                line.putNumber(answer - ALL_CONS);
-            } else if (type != NUMBERS && types.isNew[type]) {
+            } else if (type < MAX_TYPES && types.isNew[type]) {
                 writeConWith(types, types.firstCon[type], place, depth);
+            } else if (answer >= ALL_CONS) {
+                line.putNumber(answer - ALL_CONS);
             } else if (types.arity[answer] == 0) {
                 line.putName(types.conName[answer]);
             } else {
