@@ -615,8 +615,9 @@ public final class PatternTrees {
             }
             typeOfLetter['I' - 'A'] = NUMBERS;
             for (int type = 0; type < count; type++) {
-                if (typeOf(letter[type]) == NONE) {
-                    typeOfLetter[letter[type]] = type;
+                int i = letter[type];
+                if (i >= 0 && i < LETTER_COUNT && typeOfLetter[i] == NONE) {
+                    typeOfLetter[i] = type;
                 }
             }
         }

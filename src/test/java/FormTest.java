@@ -31,6 +31,7 @@ public final class FormTest {
         // A TYPE may be told behind its uses.
         good(check, "data A=aa B|ab;new B=ba C;data C=ca;match A;(aa(ba ca));", 1);
         good(check, "data B=dat|datas|whe|whens;match B;dat;datas;whe when;whens;", 4);
+        good(check, "data B=xata|ew|xew|xatch|xhen|matcx;match B;xata;ew;xew;xatch;xhen;matcx;", 6);
     }
 
     private static void tokens(Check check) {
@@ -55,13 +56,38 @@ public final class FormTest {
         check.faultyAt(B + "match I;9`-;", -2);
         // A row of digits ends where letters begin, and the other way round.
         good(check, B + "match I I I B;1x2tt;", 1);
+        fullTape(check);
         check.faultyAt(B + "match B;`ttA;", -2);
+    }
+
+    /** A text that ends with the last byte that the tape can have. */
+    private static void fullTape(Check check) {
+        String text = B + "match I B;12 tt;";
+        String blanks = " ".repeat(1200 - text.length());
+        good(check, text + blanks, 1);
+        good(check, blanks + text, 1);
+        check.faulty(blanks + B + "match I B;12  tt", -2, 1200);
+        check.faulty(blanks + B + "match B I;tt  12", -2, 1200);
+        check.faulty(";".repeat(1200), -2, 0);
+        String open = B + "match I;";
+        check.faulty(open + "9".repeat(1200 - open.length()), -2, open.length());
+        check.faulty(open + "a".repeat(1200 - open.length()), -2, open.length());
+        check.faulty(open + "_".repeat(1200 - open.length()), -2, open.length() + 60);
     }
 
     private static void types(Check check) {
         check.faultyAt("`match I;_;", -2);
         check.faultyAt("`tt", -2);
         check.faultyAt("data`", -2);
+        check.faultyAt("data `match B;tt;", -2);
+        check.faultyAt("data `data B=tt;match B;tt;", -2);
+        check.faultyAt("data B `match B;tt;", -2);
+        check.faultyAt("data B=tt `match B;tt;", -2);
+        check.faultyAt("data B=tt `data C=cc;match B;tt;", -2);
+        check.faultyAt("new B=tt `match B;tt;", -2);
+        check.faultyAt("new B=tt I `match B;tt;", -2);
+        check.faultyAt("data B=tt|`match B;tt;", -2);
+        check.faultyAt("data B=aa|bb|cc|dd|ee|ff|`match B;aa;", -2);
         check.faultyAt("data `=tt;match B;tt;", -2);
         check.faultyAt("data B`;match B;tt;", -2);
         check.faultyAt("data B=`;match B;tt;", -2);

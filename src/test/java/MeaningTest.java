@@ -78,8 +78,18 @@ public final class MeaningTest {
         check.due("the tape is empty", x.feed(0, 0, 0, 0, 0), 20);
         check.due("place stays till the next text()", x.place(), T.length() + 8);
         x.end(0);
+        check.due("a CON of a SET before is not told", anew(x, "data Q=qq;match Q;qq;tt;"), -3);
+        check.due("a SET", anew(x, "data Q=qq;match Q;qq;"), 1);
+        check.due("a CON of the SET before", anew(x, "data R=rr;match R;qq;"), -3);
+        check.due("a TYPE of the SET before", anew(x, "data R=rr Q;match R;_;"), -3);
+        check.due("a CON of a SET longer ago", anew(x, "data R=rr;match R;ff;"), -3);
+        anew(x, T + "match B;nn;");
         x.run(0);
         check.due("place stays with a FAULT of run()", x.place(), T.length() + 8);
+    }
+
+    private static int anew(PatternTrees x, String text) {
+        return Check.give(x, text).text();
     }
 
     private static void told(Check check) {

@@ -10,6 +10,7 @@ public final class MissesTest {
         numbers(check);
         newTypes(check);
         nevers(check);
+        sixty(check);
         states(check);
         check.end();
     }
@@ -71,6 +72,9 @@ public final class MissesTest {
         // A NUMBER of a ROW that is gone is not asked for any more.
         set(check, T + "match B I;tt 0;ff 1;", "tt 1", "00");
         set(check, T + "match I;100;99;", "0", "00");
+        for (int number : new int[] {0, 9, 10, 99, 100, 101, 110, 999}) {
+            set(check, T + "match B I B;_ " + number + " tt;", "_ " + number + " ff", "0");
+        }
         set(check, T + "match I I;789 _;789 456;", "0 _", "01");
     }
 
@@ -100,6 +104,25 @@ public final class MissesTest {
         // A ROW without any CON of its own may have all its CONS taken away, one by one.
         set(check, T + "match C C;re _;gr _;bl re;bl gr;_ bl;_ x;", "", "000001");
         set(check, T + "match P;(pa tt _);(pa _ re);(pa ff gr);(pa ff bl);(pa _ x);", "", "00001");
+    }
+
+    /** All 60 pats ask, each for a CON that is the only one but for the last. */
+    private static void sixty(Check check) {
+        String types = "data U=uu;data A=aa U U U;data B=ba A A A;data C=ca B B B;data D=da U V;";
+        String four = "(aa uu uu uu)";
+        String thirteen = "(ba " + four + " " + four + " " + four + ")";
+        String forty = "(ca " + thirteen + " " + thirteen + " " + thirteen + ")";
+        String all = forty + " " + thirteen + " " + four + " (da uu va)";
+        check.due("told(4)", check.set(types + "data V=va|vb;match C B A D;" + all + ";").told(4), 60);
+        set(check, types + "data V=va|vb;match C B A D;" + all + ";", all.replace("va", "vb"), "0");
+        set(check, types + "data V=va;match C B A D;" + all + ";", "", "0");
+        // A long one, with much that is not asked for.
+        set(check, "data T=abcdefgh T T T;data V=va|vb;match T V;" + deep(3) + " va;", deep(3) + " vb", "0");
+    }
+
+    private static String deep(int depth) {
+        String inner = depth == 0 ? "_" : deep(depth - 1);
+        return depth == 0 ? "_" : "(abcdefgh " + inner + " " + inner + " " + inner + ")";
     }
 
     private static void states(Check check) {

@@ -112,6 +112,7 @@ public final class RunTest {
         }
         check.runs(x, "(co 1(co 1(co 1(co 1(co 1 nn)))))", 0, "0");
         check.runs(x, " \n?\n", 0, "0");
+        check.runs(x, "", 0, "-3");
         PatternTrees y = check.set(T + "match L L;_ _;");
         check.runs(y, "nn", 0, "-3");
         check.runs(y, "nn nn nn", 0, "-3");

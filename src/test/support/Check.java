@@ -54,11 +54,12 @@ final class Check {
         return give(x, text.getBytes(StandardCharsets.ISO_8859_1));
     }
 
+    /** What end() cuts off goes on as the text does, so that it shows if it is read all the same. */
     static PatternTrees give(PatternTrees x, byte[] bytes) {
         for (int from = 0; from < bytes.length; from += 20) {
             int[] five = new int[5];
             for (int i = 0; i < 20; i++) {
-                int b = from + i < bytes.length ? bytes[from + i] & 255 : '#';
+                int b = bytes[Math.min(from + i, bytes.length - 1)] & 255;
                 five[i / 4] = five[i / 4] << 8 | b;
             }
             x.feed(five[0], five[1], five[2], five[3], five[4]);
