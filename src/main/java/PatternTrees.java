@@ -342,13 +342,10 @@ public final class PatternTrees {
             return readTypes(rules.types) && readColumns(rules) && readRows(rules);
         }
 
-        /** A tape without any value has a good form: it has too few, which is a FAULT of meaning. */
+        /** As in a ROW, a first one must stand there; how many are wanted is a matter of meaning. */
         boolean readValues(Terms values) {
             values.clear();
             tokens.cut();
-            if (tokens.kind() == END) {
-                return true;
-            }
             values.head = readList(values, true, 1);
             return values.head != NONE && tokens.kind() == END;
         }

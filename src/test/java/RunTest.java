@@ -98,22 +98,25 @@ public final class RunTest {
 
     private static void valueFaults(Check check) {
         PatternTrees x = check.set(T + "match L;_;");
-        String[] ofForm = {"_", "x", "L", "=", ";", "nn;", "(", ")", "()", "(nn)", "(co)", "(co 1", "(co 1 nn))",
-            "~nn", "!nn", "x@nn", "when", "(when nn)", "data", "01", "1000", "co ~", "nN", "abcdefghi", "nn\t", "#",
+        String[] ofForm = {"", " \n", "_", "x", "L", "=", ";", "nn;", "(", ")", "()", "(nn)", "(co)", "(co 1",
+            "(co 1 nn))", "~nn", "!nn", "x@nn", "when", "(when nn)", "data", "01", "1000", "co ~", "nN", "abcdefghi", "nn\t", "#",
             "(? nn)", "(1 2)", "((co 1 nn))", "(co 1(co 1(co 1(co 1(co 1(co 1 nn))))))", "xx _", "nn " + Check.times("?", 60),
             "nn when", "tt 1 |"};
         for (String values : ofForm) {
             check.runs(x, values, 0, "-2");
         }
-        String[] ofMeaning = {"", " \n", "tt", "1", "xx", "(xx 1)", "co", "(co 1)", "(co 1 nn nn)", "(nn 1)", "(co nn nn)",
+        String[] ofMeaning = {"tt", "1", "xx", "(xx 1)", "co", "(co 1)", "(co 1 nn nn)", "(nn 1)", "(co nn nn)",
             "(co 1 2)", "nn nn", "nn ?", "? ?", "(co tt ?)", "(co ? co)", "(pa ? ? ?)", Check.times("?", 60)};
         for (String values : ofMeaning) {
             check.runs(x, values, 0, "-3");
         }
         check.runs(x, "(co 1(co 1(co 1(co 1(co 1 nn)))))", 0, "0");
         check.runs(x, " \n?\n", 0, "0");
-        check.runs(x, "", 0, "-3");
+        // Without a first value the form is at fault, also behind a run that had values; with one, meaning.
+        check.runs(x, "", 0, "-2");
         PatternTrees y = check.set(T + "match L L;_ _;");
+        check.runs(y, "", 0, "-2");
+        check.runs(y, Check.times(" ", 1200), 0, "-2");
         check.runs(y, "nn", 0, "-3");
         check.runs(y, "nn nn nn", 0, "-3");
         PatternTrees w = check.set(NEWS + "match W;_;");
