@@ -25,11 +25,11 @@ public final class AnyCallsTest {
     }
 
     public static void main(String[] args) {
-        int runs = args.length > 0 ? Integer.parseInt(args[0]) : 3000;
+        int runs = args.length > 0 ? Integer.parseInt(args[0]) : 4500;
         Check check = new Check();
         for (int seed = 0; seed < runs; seed++) {
             AnyCallsTest test = new AnyCallsTest(seed, check);
-            for (int i = 0; i < 60; i++) {
+            for (int i = 0; i < 40; i++) {
                 test.step();
             }
         }

@@ -17,9 +17,7 @@ public final class FormTest {
     }
 
     private static void good(Check check, String text, int rows) {
-        PatternTrees x = Check.give(new PatternTrees(), text);
-        check.due("text() of " + text, x.text(), rows);
-        check.due("place() of " + text, x.place(), -1);
+        check.good(text, rows);
     }
 
     private static void goodTexts(Check check) {

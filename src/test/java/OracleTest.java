@@ -100,8 +100,8 @@ public final class OracleTest {
         for (int seed = 0; seed < sets; seed++) {
             OracleTest oracle = new OracleTest(seed);
             oracle.makeSet();
-            // An object is used for many SETS, as nothing of those before may be left.
-            x = Check.give(seed % 20 == 0 ? new PatternTrees() : x, oracle.writeSet());
+            // An object is used for two SETS, as nothing of the one before may be left.
+            x = Check.give(seed % 2 == 0 ? new PatternTrees() : x, oracle.writeSet());
             check.due("seed " + seed + " text() of " + oracle.writeSet(), x.text(), oracle.rows.size());
             check.due("seed " + seed + " told(4)", x.told(4), oracle.pats);
             check.due("seed " + seed + " told(1)", x.told(1), oracle.conCount);

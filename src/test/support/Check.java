@@ -37,11 +37,54 @@ final class Check {
         due("run(" + guards + ") of " + values, answer + looks(x), want);
     }
 
-    /** A text with a FAULT, by a new object: what text() answers, and its place. */
+    /** A text with a FAULT: what text() answers, its place, and that all else stays but for the tape. */
     void faulty(String text, int answer, int place) {
         PatternTrees x = give(new PatternTrees(), text);
         due("text() of " + text, x.text(), answer);
         due("place() of " + text, x.place(), place);
+        due("what a new object tells behind " + text, state(x), "-1 -1 -1 -1 -1, -1:, -1, , ");
+        due("feed() behind " + text, x.feed(0, 0, 0, 0, 0), 20);
+        PatternTrees y = withSet();
+        String before = state(y);
+        due("text() behind a SET of " + text, give(y, text).text(), answer);
+        due("place() behind a SET of " + text, y.place(), place);
+        due("what the SET before tells behind " + text, state(y), before);
+        due("feed() behind a SET and " + text, y.feed(0, 0, 0, 0, 0), 20);
+    }
+
+    /** A text without a FAULT: how many ROWS, no place, no looks yet, and an empty tape. */
+    PatternTrees good(String text, int rows) {
+        good(new PatternTrees(), text, rows);
+        PatternTrees y = withSet();
+        good(y, text, rows);
+        return y;
+    }
+
+    private void good(PatternTrees x, String text, int rows) {
+        due("text() of " + text, give(x, text).text(), rows);
+        due("place() of " + text, x.place(), -1);
+        due("told(3) of " + text, x.told(3), rows);
+        due("looks() of " + text, x.looks(), 0);
+        due("feed() behind " + text, x.feed(0, 0, 0, 0, 0), 20);
+        x.end(0);
+    }
+
+    /** An object with a SET of two ROWS, one of them NEVER taken, and a run that LOOKED AT two PLACES. */
+    PatternTrees withSet() {
+        PatternTrees x = set("data S=sa|sb S;match S S;(sb sa)_;(sb sa)sa when;");
+        runs(x, "(sb ?)sa", 0, "-6 1 5");
+        due("what a SET tells", state(x), "1 2 2 2 6, 2: 1 5, 1, sa _, 01");
+        return x;
+    }
+
+    /** What all calls tell that change nothing, but for place(). */
+    static String state(PatternTrees x) {
+        StringBuilder line = new StringBuilder();
+        for (int what = 0; what < 5; what++) {
+            line.append(what == 0 ? "" : " ").append(x.told(what));
+        }
+        line.append(", ").append(x.looks()).append(':').append(looks(x));
+        return line + ", " + x.misses() + ", " + example(x) + ", " + nevers(x);
     }
 
     /** The same, where the FAULT lies at the first ` of the text, which is left out. */
@@ -72,7 +115,8 @@ final class Check {
 
     static String looks(PatternTrees x) {
         StringBuilder line = new StringBuilder();
-        for (int i = 0; i < x.looks(); i++) {
+        int many = x.looks();
+        for (int i = 0; i < many; i++) {
             line.append(' ').append(x.looked(i));
         }
         return line.toString();
@@ -80,15 +124,18 @@ final class Check {
 
     static String example(PatternTrees x) {
         StringBuilder line = new StringBuilder();
-        for (int i = 0; x.example(i) != PatternTrees.NONE; i++) {
-            line.append((char) x.example(i));
+        int b = x.example(0);
+        while (b != PatternTrees.NONE) {
+            line.append((char) b);
+            b = x.example(line.length());
         }
         return line.toString();
     }
 
     static String nevers(PatternTrees x) {
         StringBuilder line = new StringBuilder();
-        for (int row = 0; row < x.told(3); row++) {
+        int rows = x.told(3);
+        for (int row = 0; row < rows; row++) {
             line.append(x.never(row));
         }
         return line.toString();
