@@ -88,6 +88,27 @@ public final class ExampleEdgesTest {
         set(check, "C I L W;_ _ _ _ when;", "_ _ _ _", "0");
         set(check, "C I;re 1 when;bl _;", "re _", "00");
         set(check, "C I;re 1 when;_ 3;bl 2 when;", "_ 0", "000");
+        // The twelfth ROW is the only one without when.
+        set(check, "C;" + "_ when;".repeat(11) + "re;", "gr", "000000000000");
+        set(check, "C;" + "_ when;".repeat(11) + "~re;", "", "000000000000");
+        set(check, "I;" + "5 when;".repeat(11) + "0;", "1", "000000000000");
+        set(check, "C B;" + "re tt;".repeat(10) + "_ ff;re tt;", "gr tt", "011111111101");
+        lastRowOfAllPats(check);
+    }
+
+    /** Eleven ROWS of one pat, and 49 pats that ask in the twelfth: all but the last way are as it asks. */
+    private static void lastRowOfAllPats(Check check) {
+        String four = "(aa ua ua ua)";
+        String thirteen = "(ba " + four + " " + four + " " + four + ")";
+        String row = "(da (ca " + thirteen + " " + thirteen + " " + thirteen + ") " + four + " " + four + ")";
+        String types = "data U=ua|ub;data A=aa U U U;data B=ba A A A;data C=ca B B B;data D=da C A A;match D;";
+        PatternTrees x = check.set(types + "_ when;".repeat(11) + row + ";");
+        check.due("told(4)", x.told(4), 60);
+        check.due("THE EXAMPLE of 49 pats", Check.example(x), row.substring(0, row.length() - 4) + "ub))");
+        check.due("never of 49 pats", Check.nevers(x), "000000000000");
+        PatternTrees y = check.set(types.replace("|ub", "") + "_ when;".repeat(10) + "_;" + row + ";");
+        check.due("misses() of 49 pats", y.misses(), 0);
+        check.due("never of 49 pats behind _", Check.nevers(y), "000000000001");
     }
 
     /** "a CON of a new TYPE asks for nothing itself, nor does ~ pat; ! and LETTER @ ask for what their pats do" */
@@ -143,6 +164,11 @@ public final class ExampleEdgesTest {
         check.due("all of six CONS", Check.example(all), "");
         PatternTrees first = check.set("data A=fa|ea|da|ca|ba|aa;match A;aa;ea;da;ca;ba;");
         check.due("the first of six CONS", Check.example(first), "fa");
+        PatternTrees sixth = check.set("data A=fa|ea|da|ca|ba|aa;match A A;fa _;ea _;da _;ca _;ba _;aa ca;");
+        check.due("by the last of six CONS", Check.example(sixth), "aa fa");
+        check.due("never by six CONS", Check.nevers(sixth), "000000");
+        PatternTrees behind = check.set("data A=fa|ea|da|ca|ba|aa;match A A;fa _;ea _;da _;ca _;ba _;aa ca;_ _;_ fa;");
+        check.due("never behind six CONS", Check.nevers(behind), "00000001");
         // CONS of a TYPE that is told behind another one.
         PatternTrees last = check.set("data A=za|zb;data B=aa|ab;match B A;aa za;");
         check.due("the way by the first CON", Check.example(last), "aa zb");
@@ -247,5 +273,21 @@ public final class ExampleEdgesTest {
         Check.give(z, T + "match B;_;_;").text();
         check.due("no EXAMPLE of a third SET", Check.example(z) + z.misses(), "0");
         check.due("never of a third SET", Check.nevers(z), "01");
+        manySets(check);
+    }
+
+    /** One object, and SETS that ask for more than 60 PLACES and at more than 60 pats, all taken together. */
+    private static void manySets(Check check) {
+        PatternTrees x = new PatternTrees();
+        String three = "(no(no le le le)(no le le le)(no le le le))";
+        String[] rows = {"T T;" + three + three + ";", "I I I T;_ _ _(no" + three + "_ _);", "T T;_(no" + three + three + "_);",
+            "T;(no _ _(no _ _" + three + "));", "T I;(no _" + three + "_)5;", "I T;3 le;_(no _ _ le);"};
+        String[] due = {"le _", "_ _ _ le", "_ le", "le", "le _", "3 (no _ _ (no _ _ _))"};
+        for (int i = 0; i < rows.length; i++) {
+            check.due("text() of SET " + i, Check.give(x, "data T=le|no T T T;match " + rows[i]).text() > 0 ? 1 : 0, 1);
+            check.due("THE EXAMPLE of SET " + i, Check.example(x), due[i]);
+            check.due("never(0) of SET " + i, x.never(0), 0);
+        }
+        check.due("never(1) of the last SET", x.never(1), 0);
     }
 }

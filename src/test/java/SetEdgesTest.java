@@ -80,6 +80,31 @@ public final class SetEdgesTest {
         check.faultyAt(SIX.replace("|ff;", "|`aa;") + "match A;aa;", -3);
         check.faultyAt(SIX.replace("|ff;", "|`fe;") + "match A;aa;", -3);
         check.faultyAt("new A=aa I`|ab I;match A;_;", -2);
+        thirtySixCons(check);
+    }
+
+    /** All CONS that there may be, each with all TYPES that it may have. */
+    private static void thirtySixCons(Check check) {
+        String types = SIX.replace("|", " I F A|").replace(";", " I F A;");
+        PatternTrees x = check.good(types + "match F;(fa _ _ _);(fb _ _ _);(fc _ _ _);(fd _ _ _);(fe _ _ _);(ff 7 _(af 8 _ _));", 6);
+        told(check, x, "6 36 1 6 27");
+        check.runs(x, "(ff 7 ?(af 8 ? ?))", 0, "5 1 5 7 29");
+        check.runs(x, "(ff 7 ?(ae 8 ? ?))", 0, "-5 1 5 7");
+        check.runs(x, "(ff 7 ?)", 0, "-3");
+        check.runs(x, "(ff ? ? ? ?)", 0, "-3");
+        check.due("THE EXAMPLE", Check.example(x), "(ff 7 _ (aa _ _ _))");
+        check.due("never", Check.nevers(x), "000000");
+        int end = types.length() - 1;
+        check.faultyAt(types.substring(0, end - 1) + "`Q;match F;_;", -3);
+        check.faultyAt(types.substring(0, end) + " `A;match F;_;", -2);
+        check.faultyAt(types.substring(0, end) + "|`fg;match F;_;", -2);
+        PatternTrees last = check.good(SIX + "match F;ff;", 1);
+        check.due("THE EXAMPLE of the last CON", Check.example(last), "fa");
+        PatternTrees others = check.good(SIX + "match F I;fa _;fb _;fc _;fd _;fe _;", 5);
+        check.due("THE EXAMPLE, the last CON", Check.example(others), "ff _");
+        PatternTrees all = check.good(SIX + "match F I;fa _;fb _;fc _;fd _;fe _;ff 0;", 6);
+        check.due("THE EXAMPLE behind the last CON", Check.example(all), "ff 1");
+        check.due("never", Check.nevers(all), "000000");
     }
 
     /** "CONS are WORDS (but data new match when)" */
