@@ -94,6 +94,33 @@ public final class ExampleEdgesTest {
         set(check, "I;" + "5 when;".repeat(11) + "0;", "1", "000000000000");
         set(check, "C B;" + "re tt;".repeat(10) + "_ ff;re tt;", "gr tt", "011111111101");
         lastRowOfAllPats(check);
+        sixtyAsks(check);
+    }
+
+    /** "60 pats in all", each of which asks, with CONS of eight letters: by the last PLACE alone something is MISSED. */
+    private static void sixtyAsks(Check check) {
+        String four = "(aaaaaaaa uaaaaaaa uaaaaaaa uaaaaaaa)";
+        String thirteen = "(baaaaaaa " + four + " " + four + " " + four + ")";
+        String forty = "(caaaaaaa " + thirteen + " " + thirteen + " " + thirteen + ")";
+        String row = forty + " " + thirteen + " " + four + " (daaaaaaa uaaaaaaa uaaaaaaa)";
+        String types = "data U=uaaaaaaa|ubbbbbbb;data A=aaaaaaaa U U U;data B=baaaaaaa A A A;data C=caaaaaaa B B B;"
+                + "data D=daaaaaaa U U;match C B A D;";
+        String due = row.substring(0, row.length() - 9) + "ubbbbbbb)";
+        // It is longer than the calls that an object is used for, so it is read from two.
+        int half = due.length() / 2;
+        PatternTrees first = check.set(types + row + ";");
+        PatternTrees second = check.set(types + row + ";");
+        check.due("told(4) of 60 asks", first.told(4), 60);
+        check.due("misses() of 60 asks", first.misses(), 1);
+        check.due("never(0) of 60 asks", first.never(0), 0);
+        for (int i = 0; i < due.length(); i++) {
+            check.due("example(" + i + ") of 60 asks", (i < half ? first : second).example(i), due.charAt(i));
+        }
+        check.due("example() behind 60 asks", second.example(due.length()), -1);
+        PatternTrees only = check.set(types.replace("|ubbbbbbb", "") + row + ";");
+        check.due("misses() of 60 asks for the only CON", only.misses(), 0);
+        check.due("example(0) of 60 asks for the only CON", only.example(0), -1);
+        check.due("never(0) of 60 asks for the only CON", only.never(0), 0);
     }
 
     /** Eleven ROWS of one pat, and 49 pats that ask in the twelfth: all but the last way are as it asks. */
