@@ -652,7 +652,7 @@ public final class PatternTrees {
 
         /** Form.readTerm sees to it that there is room. */
         int add(int ofKind, int place) {
-            int term = Math.min(count, MAX_TERMS - 1);
+            int term = count < MAX_TERMS ? count : MAX_TERMS - 1;
             kind[term] = ofKind;
             at[term] = place;
             nameAt[term] = place;
@@ -891,8 +891,37 @@ public final class PatternTrees {
             }
         }
 
-        int wantedAt(int row, int ofSpot) {
-            return wanted[row * MAX_TERMS + ofSpot];
+        /** Those of the ROWS that could still match once a spot is settled to this answer. */
+        int rowsLeft(int rows, int ofSpot, int settledTo) {
+            int left = 0;
+            for (int row = 0; row < MAX_ROWS; row++) {
+                int want = wanted[row * MAX_TERMS + ofSpot];
+                if ((rows >> row & 1) == 1 && (want == NONE || want == settledTo)) {
+                    left |= 1 << row;
+                }
+            }
+            return left;
+        }
+
+        /** The least answer from a bound on that some of the ROWS wants at a spot; NONE. */
+        int leastWanted(int rows, int ofSpot, int bound) {
+            int least = NONE;
+            for (int row = 0; row < MAX_ROWS; row++) {
+                int want = (rows >> row & 1) == 1 ? wanted[row * MAX_TERMS + ofSpot] : NONE;
+                if (want >= bound && (least == NONE || want < least)) {
+                    least = want;
+                }
+            }
+            return least;
+        }
+
+        /** Each of the ROWS wants one answer at the most, so one of the first 13 from a bound on is free. */
+        int leastUnwanted(int rows, int ofSpot, int bound) {
+            int free = bound;
+            for (int n = 0; n < MAX_ROWS && leastWanted(rows, ofSpot, free) == free; n++) {
+                free++;
+            }
+            return free;
         }
 
         int spotOf(int place) {
@@ -991,15 +1020,7 @@ public final class PatternTrees {
         /** Settles a spot, and answers the ROWS that could still match. */
         private int settle(int rows, int spot, int answer) {
             settled[spot] = answer;
-            int left = 0;
-            for (int row = 0; row < MAX_ROWS; row++) {
-                boolean could = (rows >> row & 1) == 1;
-                int wanted = could ? asks.wantedAt(row, spot) : NONE;
-                if (could && (wanted == NONE || wanted == answer)) {
-                    left |= 1 << row;
-                }
-            }
-            return left;
+            return asks.rowsLeft(rows, spot, answer);
         }
 
         /**
@@ -1067,7 +1088,7 @@ public final class PatternTrees {
             if (answer < ALL_CONS) {
                 return types.firstCon[types.conType[answer]];
             }
-            return leastWanted(rows, asks.spot[ask], ALL_CONS);
+            return asks.leastWanted(rows, asks.spot[ask], ALL_CONS);
         }
 
         /** The CONS of a TYPE follow one another; behind the NUMBERS that are wanted comes one that is not. */
@@ -1076,43 +1097,22 @@ public final class PatternTrees {
                 int type = types.conType[answer];
                 return answer + 1 < types.firstCon[type] + types.consOf[type] ? answer + 1 : NONE;
             }
-            if (leastWanted(rows, spot, answer) != answer) {
+            if (asks.leastWanted(rows, spot, answer) != answer) {
                 return NONE;
             }
-            int above = leastWanted(rows, spot, answer + 1);
-            return above == NONE ? leastUnwanted(rows, spot, ALL_CONS) : above;
-        }
-
-        /** The least answer from a bound on that some of the ROWS wants at a spot; NONE. */
-        private int leastWanted(int rows, int spot, int bound) {
-            int least = NONE;
-            for (int row = 0; row < MAX_ROWS; row++) {
-                int wanted = (rows >> row & 1) == 1 ? asks.wantedAt(row, spot) : NONE;
-                if (wanted >= bound && (least == NONE || wanted < least)) {
-                    least = wanted;
-                }
-            }
-            return least;
+            int above = asks.leastWanted(rows, spot, answer + 1);
+            return above == NONE ? asks.leastUnwanted(rows, spot, ALL_CONS) : above;
         }
 
         /** The first CON, or the least NUMBER, that none of the ROWS wants; NONE: each CON is wanted. */
         private int unwantedAnswer(Types types, int rows, int ask) {
             int spot = asks.spot[ask];
             if (asks.answer[ask] >= ALL_CONS) {
-                return leastUnwanted(rows, spot, ALL_CONS);
+                return asks.leastUnwanted(rows, spot, ALL_CONS);
             }
             int type = types.conType[asks.answer[ask]];
-            int con = leastUnwanted(rows, spot, types.firstCon[type]);
+            int con = asks.leastUnwanted(rows, spot, types.firstCon[type]);
             return con < types.firstCon[type] + types.consOf[type] ? con : NONE;
-        }
-
-        /** Each of the ROWS wants one answer at the most, so one of the first 13 is free. */
-        private int leastUnwanted(int rows, int spot, int bound) {
-            int answer = bound;
-            for (int n = 0; n < MAX_ROWS && leastWanted(rows, spot, answer) == answer; n++) {
-                answer++;
-            }
-            return answer;
         }
 
         private void writeExample(Rules rules) {
